@@ -986,11 +986,13 @@ public final class LineOffice {
 
         private void takeWord(Input text) {
             end = start;
+            word = NO_WORD;
             while (end < text.length && isLetter(text.signAt(end))) {
+                word = withLetter(word, text.signAt(end));
                 end++;
             }
-            // a word that is too long is NO_WORD, which can stand nowhere
-            word = text.wordBetween(start, end);
+            // a word that is too long becomes NO_WORD, which can stand nowhere
+            word = end - start > MOST_LETTERS ? NO_WORD : word;
             token = WORD;
         }
 
