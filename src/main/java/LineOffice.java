@@ -223,7 +223,7 @@ public final class LineOffice {
 
     public int uses(int writer) throws IndexOutOfBoundsException {
         checkWriter(writer);
-        long word = input.wordBetween(0, input.length);
+        long word = input.wholeWord();
         input.length = 0;
         now.collect(past, writer, now.works);
         return word == NO_WORD ? 0 : past.linesWith(word);
@@ -399,7 +399,6 @@ public final class LineOffice {
     public int countsIf(int work, int what, int value)
             throws IndexOutOfBoundsException, IllegalArgumentException {
         Work asked = workOrThrow(work);
-        checkSetting(what);
         checkValue(what, value);
         int[] rules = now.rules.clone();
         put(rules, what, value);
@@ -492,7 +491,7 @@ public final class LineOffice {
     }
 
     public int addWriter() {
-        long name = input.wordBetween(0, input.length);
+        long name = input.wholeWord();
         input.length = 0;
         if (!isName(name) || now.hasWriter(name)) {
             return WRONG;
@@ -527,7 +526,6 @@ public final class LineOffice {
     }
 
     public int set(int what, int value) throws IllegalArgumentException {
-        checkSetting(what);
         checkValue(what, value);
         history.keep(now);
         int before = now.rule(what);
@@ -800,13 +798,13 @@ public final class LineOffice {
             return index >= 0 && index < length && index < bytes.length ? bytes[index] & 255 : NONE;
         }
 
-        /** The word that these bytes are; NO_WORD if they are none. */
-        long wordBetween(int from, int to) {
-            if (to - from > MOST_LETTERS) {
+        /** The word that the whole content is; NO_WORD if it is none. */
+        long wholeWord() {
+            if (length > MOST_LETTERS) {
                 return NO_WORD;
             }
             long word = NO_WORD;
-            for (int i = from; i < to; i++) {
+            for (int i = 0; i < length; i++) {
                 if (!isLetter(signAt(i))) {
                     return NO_WORD;
                 }

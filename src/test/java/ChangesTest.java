@@ -445,6 +445,8 @@ public final class ChangesTest {
     private static void promises48And49SavedState() {
         LineOffice x = Check.office("stuff 2;distinct 1;");
         Check.throwing("nothing is saved", Check.ELEMENT, x::restoreState);
+        LineOffice fresh = new LineOffice();
+        Check.throwing("nothing is saved in a new one", Check.ELEMENT, fresh::restoreState);
         Check.submit(x, 0, LIST, "one one one");
         x.pass(7);
         Check.same("saveState", x.saveState(), 7);

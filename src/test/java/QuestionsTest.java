@@ -46,6 +46,14 @@ public final class QuestionsTest {
         rowOf("count behind an appeal", new int[] {2, 3, 10, 8, 2, 500, 6, 37, 6}, x::count);
         x.payOut(0);
         Check.same("no balance above 0", x.count(7), 0);
+        Check.submit(x, 0, PROSE, "two more");
+        Check.submit(x, 1, PROSE, "and these of bob");
+        x.undo();
+        x.undo();
+        x.undo();
+        x.undo();
+        x.undo();
+        Check.same("balances of both", x.count(7), 27 + 6);
         badWhats("count", 9, x::count);
     }
 
@@ -163,6 +171,9 @@ public final class QuestionsTest {
         Check.submit(x, 0, LIST, "q r q mat");
         Check.same("of the same work", x.likeLine(3, 2), 300);
         Check.same("of the first work", x.likeLine(3, 3), 2);
+        Check.submit(x, 1, LIST, "q r r");
+        Check.same("of the same work, not its first line", x.likeLine(4, 2), 401);
+        x.undo();
         Check.submit(x, 0, VERSE, "of a a a/cat the/of a a");
         Check.same("whether it counts or not", x.likeLine(4, 0), 101);
         Check.same("other order", x.likeLine(4, 1), LineOffice.NONE);
@@ -211,6 +222,10 @@ public final class QuestionsTest {
         Check.same("bob's, on a tie", x.favourite(1), 200);
         Check.submit(x, 1, VERSE, "a mat/b mat");
         Check.same("bob's then", x.favourite(1), 201);
+        Check.same("ann's behind bob's", x.favourite(0), 0);
+        Check.submit(x, 0, VERSE, "new cat/old cat/no cat");
+        Check.same("ann's then", x.favourite(0), 1);
+        Check.same("bob's behind ann's", x.favourite(1), 201);
         badNumbers("favourite", 2, x::favourite);
         LineOffice y = Check.office("measure 30;stuff 2;worn 99;");
         Check.same("without works", y.favourite(0), LineOffice.NONE);
@@ -243,6 +258,9 @@ public final class QuestionsTest {
         Check.same("other works of bob", x.newWords(3), 1);
         Check.submit(x, 1, PROSE, "cat sat");
         Check.same("none", x.newWords(4), 0);
+        Check.submit(x, 1, PROSE, "sat on the");
+        Check.same("the first word of a work", x.newWords(5), 1);
+        x.undo();
         badNumbers("newWords", 5, x::newWords);
     }
 
@@ -360,6 +378,11 @@ public final class QuestionsTest {
         x.advance(2, 5);
         Check.same("richest", x.richest(), 1);
         rowOf("ranks", new int[] {2, 0, 3, 1}, x::rank);
+        x.advance(1, 2);
+        x.advance(3, 1);
+        Check.same("all below 0", x.richest(), 3);
+        x.undo();
+        x.undo();
         Check.submit(x, 3, PROSE, "a few words of mine");
         Check.same("richest", x.richest(), 3);
         rowOf("ranks", new int[] {2, 1, 3, 0}, x::rank);
@@ -371,6 +394,9 @@ public final class QuestionsTest {
         Check.same("mean", x.meanWidth(0), 20.0 / 3.0);
         Check.same("mean", x.meanWidth(1), 23.0 / 4.0);
         Check.same("mean", x.meanWidth(2), 3.0);
+        Check.submit(x, 0, PROSE, "one line");
+        Check.same("mean of a line", x.meanWidth(3), 8.0);
+        x.undo();
         for (int bad : new int[] {LEAST, -1, 3, GREATEST}) {
             Check.throwing("meanWidth of " + bad, Check.INDEX, () -> x.meanWidth(bad));
         }
@@ -437,6 +463,8 @@ public final class QuestionsTest {
         // half of 1 is 0: by 6 three lines pay, by 7 four
         Check.same("half of RATE is cut", x.payIf(1, 6), 3);
         Check.same("RATE of now", x.bestMeasure(1), 7);
+        // by 6 "aa bbb|cc|dddd e|ff" pays 2, by 7 "aa bbb|cc dddd|e ff" pays 3, and by 8 the same
+        Check.same("a tie above 6", bestFor(x, "aa bbb cc dddd e ff"), 7);
     }
 
     private static void promises29And30Would() {
@@ -564,6 +592,10 @@ public final class QuestionsTest {
         Check.same("another writer", x.whyNot(4, 0), 0);
         x.pass(5);
         Check.same("too late comes first", x.whyNot(3, 2), 2);
+        LineOffice y = Check.office("stuff 2;distinct 2;");
+        Check.submit(y, 0, VERSE, "a b a/c c");
+        Check.submit(y, 0, VERSE, "d e d");
+        Check.same("hopes of the first work and the second", y.hopes(0), 2);
         badNumbers("whyNot", 4, i -> x.whyNot(1, i));
         badNumbers("whyNot of a work", 5, i -> x.whyNot(i, 0));
         badNumbers("hopes", 2, x::hopes);
@@ -583,7 +615,34 @@ public final class QuestionsTest {
         badNumbers("longestRun", 5, x::longestRun);
     }
 
+    /** Twelve lists of sixty different words, all of one writer: as many lines as there can be. */
+    private static void fullShelf() {
+        LineOffice x = Check.office("list 99;worn 1;stuff 2;fine 99;distinct 1;");
+        for (int i = 0; i < 12; i++) {
+            StringBuilder text = new StringBuilder();
+            for (int j = 0; j < 60; j++) {
+                int n = 60 * i + j;
+                text.append((char) ('a' + n / 26 % 26)).append((char) ('a' + n % 26)).append(n < 676 ? " " : "z ");
+            }
+            Check.same("work " + i, Check.submit(x, 0, LIST, text.toString()), i);
+        }
+        Check.same("lines", x.count(2), 720);
+        Check.same("those that count", x.count(3), 720);
+        Check.same("different words", x.writer(0, 8), 720);
+        Check.same("balance", x.writer(0, 0), 720 * 49);
+        Check.same("the last word", Check.uses(x, 0, "brz"), 1);
+        Check.give(x, "brz zz");
+        Check.same("a line of the last work is past", x.wouldCount(0, LIST, 6), 0);
+        Check.same("and costs", x.wouldPay(0, LIST, 6), -198);
+        Check.same("favourite", x.favourite(0), 0);
+        Check.same("countsIf", x.countsIf(11, 0, 6), 60);
+        Check.same("likeLine", x.likeLine(11, 59), LineOffice.NONE);
+        Check.same("newWords", x.newWords(11), 60);
+        Check.same("longestRun", x.longestRun(11), 60);
+    }
+
     public static void main(String[] args) {
+        fullShelf();
         promise7Count();
         promise8Setting();
         promise9Writer();
