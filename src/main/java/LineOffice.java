@@ -1031,8 +1031,7 @@ public final class LineOffice {
                 int sign = text.signAt(i);
                 if (isLetter(sign)) {
                     script.addLetter(index, sign, slashes);
-                    boolean isLast = i + 1 >= length || !isLetter(text.signAt(i + 1));
-                    index += isLast ? 1 : 0;
+                    index += isLetter(text.signAt(i + 1)) ? 0 : 1;
                 } else if (sign == '/') {
                     slashes++;
                 }

@@ -103,16 +103,16 @@ public final class ModelTest {
 
     private String setup() {
         StringBuilder text = new StringBuilder("office ").append(random.nextInt(3000)).append(";");
-        int statements = 1 + random.nextInt(8);
+        int statements = random.nextInt(12);
         for (int i = 0; i < statements; i++) {
-            if (random.nextInt(2) == 0 || i == 0) {
+            if (random.nextInt(2) == 0 || i == 0 && random.nextInt(9) > 0) {
                 text.append("writer ").append(random.nextInt(4) == 0 ? NAMES[random.nextInt(NAMES.length)]
                         : "" + (char) ('a' + random.nextInt(20)));
             } else {
                 int what = random.nextInt(10);
                 int span = Math.min(12, Model.HIGH[what] - Model.LOW[what] + 1);
                 text.append(Model.WORDS[what]).append(random.nextInt(9) == 0 ? "\n" : " ");
-                text.append(Model.LOW[what] + random.nextInt(span) - (random.nextInt(25) == 0 ? 1 : 0));
+                text.append(random.nextInt(8) == 0 ? random.nextInt(110) : Model.LOW[what] + random.nextInt(span));
             }
             text.append(random.nextInt(9) == 0 ? " ; " : ";");
         }
@@ -125,6 +125,13 @@ public final class ModelTest {
             }
         }
         return text.toString();
+    }
+
+    private void loadSome() throws Exception {
+        give(setup());
+        call("loadOffice");
+        call("errorCode");
+        call("errorOffset");
     }
 
     private int argument() {
@@ -199,9 +206,8 @@ public final class ModelTest {
         for (int run = 0; run < RUNS; run++) {
             ModelTest test = new ModelTest(run);
             try {
-                if (run % 4 != 0) {
-                    test.give(test.setup());
-                    test.call("loadOffice");
+                for (int i = 0; i < run % 4; i++) {
+                    test.loadSome();
                 }
                 while (test.calls < CALLS - 40) {
                     test.step();

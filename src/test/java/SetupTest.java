@@ -102,6 +102,13 @@ public final class SetupTest {
         loads(SIX, 6);
         Check.same("no setting told, the usual ones", loads("office 1;writer z;", 1).setting(8), 8);
 
+        // what a load told that failed is forgotten
+        LineOffice z = new LineOffice();
+        Check.load(z, "office 5;writer q;writer r;measure 7;list 7;fee 77");
+        Check.same("load behind one that failed", Check.load(z, "office 6;measure 8;list 8;writer q;"), 1);
+        Check.same("MEASURE", z.setting(0), 8);
+        Check.same("FEE", z.setting(6), 1);
+
         // a successful load replaces everything but the output
         LineOffice y = Check.office("fine 5;");
         Check.submit(y, 0, 0, "one two one two");
