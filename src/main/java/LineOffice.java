@@ -1337,7 +1337,8 @@ public final class LineOffice {
 
     /** The lines of a writer that count, as far as they are looked at. */
     private static final class Past {
-        private final Line[] lines = new Line[MOST_WORKS * MOST_WORDS];
+        // a work is judged behind as many works as there can be, too, and its own lines are past for those that follow
+        private final Line[] lines = new Line[(MOST_WORKS + 1) * MOST_WORDS];
         private int size;
 
         void forget() {

@@ -11,6 +11,9 @@ import java.util.Random;
 /** Plays the same runs of calls on LineOffice and on the model; every answer has to be the same. */
 public final class ModelTest {
     private static final int RUNS = 1500;
+    private static final int FULL_RUNS = 60;
+    /** How many words the works of a full run are drawn from: somewhat more than 12 works can hold. */
+    private static final int FULL_WORDS = 800;
     private static final int CALLS = 512;
     private static final String[] NAMES = {"a", "b", "cid", "abcdef", "fee", "abcdefg", "A", "", "office", "worn"};
     private static final int[] ODD = {Integer.MIN_VALUE, Integer.MAX_VALUE, -1, 0, 1, 2, 3, 5, 6, 7, 8, 9, 10, 11, 12,
@@ -191,6 +194,50 @@ public final class ModelTest {
         }
     }
 
+    private static String numbered(int n) {
+        return "" + (char) ('a' + n / 676) + (char) ('a' + n / 26 % 26) + (char) ('a' + n % 26);
+    }
+
+    /** Sixty words or somewhat fewer, most of them from a number on, and lines of one word or two. */
+    private String longScript(int kind, int from, int strange) {
+        StringBuilder text = new StringBuilder();
+        int words = random.nextInt(3) == 0 ? 50 + random.nextInt(11) : 60;
+        for (int i = 0; i < words; i++) {
+            int n = random.nextInt(100) < strange ? random.nextInt(FULL_WORDS) : from + i;
+            n = random.nextInt(100) < strange ? from + random.nextInt(1 + i) : n;
+            text.append(numbered(n)).append(kind == 1 && random.nextInt(100) >= strange ? "/" : " ");
+        }
+        return text.toString();
+    }
+
+    /** A shelf of long works, almost all of their lines counting, and what is told of a further one. */
+    private void fullRun() throws Exception {
+        int strange = random.nextInt(3) == 0 ? 0 : random.nextInt(30);
+        call("set", 2, 1 + random.nextInt(3));
+        for (int i = 0; i < 12; i++) {
+            int kind = 1 + random.nextInt(2);
+            String text = longScript(kind, 60 * i, random.nextInt(2) * strange);
+            give(text);
+            call("submit", 0, kind, text.length());
+        }
+        call("count", 3);
+        while (calls < CALLS - 60) {
+            int kind = random.nextInt(3);
+            String text = longScript(kind, 720, random.nextInt(50));
+            give(text);
+            call("wouldCount", 0, kind, text.length());
+            call("wouldPay", 0, kind, text.length());
+            call("set", 1 + random.nextInt(2), 2 + random.nextInt(2));
+            call("countsIf", 11, random.nextInt(3), 6);
+            call("appeal", random.nextInt(12), random.nextInt(60));
+            call("favourite", 0);
+            call("writer", 0, 8 + random.nextInt(2));
+        }
+        while (calls < CALLS - 40) {
+            step();
+        }
+    }
+
     private void someChange(int writer) throws Exception {
         switch (random.nextInt(6)) {
             case 0: call("pass", 1 + random.nextInt(random.nextInt(4) == 0 ? 99 : 3)); break;
@@ -202,21 +249,29 @@ public final class ModelTest {
         }
     }
 
+    private void mixedRun(int loads) throws Exception {
+        for (int i = 0; i < loads; i++) {
+            loadSome();
+        }
+        while (calls < CALLS - 40) {
+            step();
+        }
+    }
+
     public static void main(String[] args) throws Exception {
-        for (int run = 0; run < RUNS; run++) {
+        for (int run = 0; run < RUNS + FULL_RUNS; run++) {
             ModelTest test = new ModelTest(run);
             try {
-                for (int i = 0; i < run % 4; i++) {
-                    test.loadSome();
-                }
-                while (test.calls < CALLS - 40) {
-                    test.step();
+                if (run < RUNS) {
+                    test.mixedRun(run % 4);
+                } else {
+                    test.fullRun();
                 }
             } catch (IllegalStateException e) {
                 System.out.println("run " + run + ":\n" + test.told + e.getMessage());
                 System.exit(1);
             }
         }
-        System.out.println(RUNS + " runs answered as the model does");
+        System.out.println((RUNS + FULL_RUNS) + " runs answered as the model does");
     }
 }

@@ -615,25 +615,82 @@ public final class QuestionsTest {
         badNumbers("longestRun", 5, x::longestRun);
     }
 
-    /** Twelve lists of sixty different words, all of one writer: as many lines as there can be. */
-    private static void fullShelf() {
-        LineOffice x = Check.office("list 99;worn 1;stuff 2;fine 99;distinct 1;");
-        for (int i = 0; i < 12; i++) {
-            StringBuilder text = new StringBuilder();
-            for (int j = 0; j < 60; j++) {
-                int n = 60 * i + j;
-                text.append((char) ('a' + n / 26 % 26)).append((char) ('a' + n % 26)).append(n < 676 ? " " : "z ");
-            }
-            Check.same("work " + i, Check.submit(x, 0, LIST, text.toString()), i);
+    /** Some words of three letters, from a number on: those of different numbers differ, up to 17575. */
+    private static String words(int from, int to, String between) {
+        StringBuilder text = new StringBuilder();
+        for (int n = from; n < to; n++) {
+            text.append((char) ('a' + n / 676)).append((char) ('a' + n / 26 % 26)).append((char) ('a' + n % 26));
+            text.append(between);
         }
+        return text.toString();
+    }
+
+    /** Twelve lists of sixty different words, all of writer 0: as many lines as there can be. */
+    private static LineOffice shelfOf720(String settings) {
+        LineOffice x = Check.office(settings);
+        for (int i = 0; i < 12; i++) {
+            Check.same("work " + i, Check.submit(x, 0, LIST, words(60 * i, 60 * i + 60, " ")), i);
+        }
+        return x;
+    }
+
+    /** What is told of the text that is all in the buffer then. */
+    private static void would(LineOffice x, int kind, String text, int count, int pay) {
+        x.truncateInput(0);
+        Check.give(x, text);
+        Check.same("wouldCount behind 720 lines: " + text, x.wouldCount(0, kind, text.length()), count);
+        Check.same("wouldPay behind 720 lines: " + text, x.wouldPay(0, kind, text.length()), pay);
+    }
+
+    /** The lines of a 13th work are past for those that follow, though the shelf is full. */
+    private static void thirteenthWork() {
+        LineOffice x = shelfOf720("fine 3;");
+        would(x, LIST, "zzz zzz", 1, 2 - 3);
+        // the shelf goes from aaa to bbr
+        would(x, LIST, "aaa zzz bbr zzz bbs", 2, 2 * 2 - 3 * 3);
+        String fresh = words(720, 778, " ");
+        would(x, LIST, fresh + "zzz zzz", 59, 59 * 2 - 3);
+        would(x, LIST, fresh + "zzz bdx", 59, 59 * 2 - 3);
+        would(x, LIST, words(720, 780, " "), 60, 60 * 2);
+        would(x, VERSE, words(720, 779, "/") + "zzz", 60, 60 * 4);
+        would(x, VERSE, "zzz yyy/yyy zzz/zzz yyy/aaa/aaa zzz", 3, 3 * 4 - 2 * 3);
+        x.set(2, 1);
+        would(x, VERSE, "zzz/yyy aaa/yyy zzz/aaa yyy zzz/xxx", 3, 3 * 4 - 2 * 3);
+        would(x, VERSE, words(720, 777, "/") + "zzz/zzz bdw", 58, 58 * 4 - 3);
+        x.set(2, 2);
+        would(x, VERSE, "zzz/yyy zzz/zzz xxx/xxx zzz aaa/xxx zzz/zzz", 4, 3 * 4 + 8 - 2 * 3);
+        Check.same("nothing is handed in", x.count(3), 720);
+        Check.same("there are 12 works", Check.submit(x, 0, LIST, "zzz zzz"), LineOffice.FULL);
+        // the other writer has no past
+        x.truncateInput(0);
+        Check.give(x, "aaa aaa aab");
+        Check.same("another writer", x.wouldCount(1, LIST, 11), 2);
+        Check.same("another writer", x.wouldPay(1, LIST, 11), 2 * 2 - 3);
+    }
+
+    /** Where some lines of a full shelf count by an appeal alone, they are past as the others are. */
+    private static void thirteenthWorkBehindAppeals() {
+        LineOffice x = Check.office("stuff 2;distinct 1;fine 3;");
+        for (int i = 0; i < 11; i++) {
+            Check.submit(x, 0, LIST, words(60 * i, 60 * i + 60, " "));
+        }
+        Check.submit(x, 0, VERSE, "zzz zzz/" + words(660, 718, "/"));
+        Check.same("one is caught", x.count(3), 11 * 60 + 58);
+        Check.same("it is granted", x.appeal(11, 0), 1);
+        would(x, VERSE, "zzz zzz/zzz/zzz/yyy", 2, 2 * 4 - 2 * 3);
+        x.undo();
+        would(x, VERSE, "zzz zzz/zzz/zzz/yyy", 2, 2 * 4 - 2 * 3);
+        Check.same("reason as it is looked at", x.line(11, 0, 4), 2);
+    }
+
+    private static void fullShelf() {
+        LineOffice x = shelfOf720("list 99;worn 1;stuff 2;fine 99;distinct 1;");
         Check.same("lines", x.count(2), 720);
         Check.same("those that count", x.count(3), 720);
         Check.same("different words", x.writer(0, 8), 720);
         Check.same("balance", x.writer(0, 0), 720 * 49);
-        Check.same("the last word", Check.uses(x, 0, "brz"), 1);
-        Check.give(x, "brz zz");
-        Check.same("a line of the last work is past", x.wouldCount(0, LIST, 6), 0);
-        Check.same("and costs", x.wouldPay(0, LIST, 6), -198);
+        Check.same("the last word", Check.uses(x, 0, "bbr"), 1);
+        would(x, LIST, "bbr zzz", 1, 49 - 99);
         Check.same("favourite", x.favourite(0), 0);
         Check.same("countsIf", x.countsIf(11, 0, 6), 60);
         Check.same("likeLine", x.likeLine(11, 59), LineOffice.NONE);
@@ -643,6 +700,8 @@ public final class QuestionsTest {
 
     public static void main(String[] args) {
         fullShelf();
+        thirteenthWork();
+        thirteenthWorkBehindAppeals();
         promise7Count();
         promise8Setting();
         promise9Writer();
