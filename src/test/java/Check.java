@@ -116,6 +116,16 @@ final class Check {
         return text.toString();
     }
 
+    /** Some words of three letters, no two of them the same, from a number up to 17575 on, with a text behind each. */
+    static String words(int from, int count, String behind) {
+        StringBuilder text = new StringBuilder();
+        for (int n = from; n < from + count; n++) {
+            text.append((char) ('a' + n / 676)).append((char) ('a' + n / 26 % 26)).append((char) ('a' + n % 26));
+            text.append(behind);
+        }
+        return text.toString();
+    }
+
     /** The states of the lines of a work, by their letters. */
     static String states(LineOffice x, int work) {
         StringBuilder text = new StringBuilder();

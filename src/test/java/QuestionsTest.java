@@ -615,21 +615,11 @@ public final class QuestionsTest {
         badNumbers("longestRun", 5, x::longestRun);
     }
 
-    /** Some words of three letters, from a number on: those of different numbers differ, up to 17575. */
-    private static String words(int from, int to, String between) {
-        StringBuilder text = new StringBuilder();
-        for (int n = from; n < to; n++) {
-            text.append((char) ('a' + n / 676)).append((char) ('a' + n / 26 % 26)).append((char) ('a' + n % 26));
-            text.append(between);
-        }
-        return text.toString();
-    }
-
     /** Twelve lists of sixty different words, all of writer 0: as many lines as there can be. */
     private static LineOffice shelfOf720(String settings) {
         LineOffice x = Check.office(settings);
         for (int i = 0; i < 12; i++) {
-            Check.same("work " + i, Check.submit(x, 0, LIST, words(60 * i, 60 * i + 60, " ")), i);
+            Check.same("work " + i, Check.submit(x, 0, LIST, Check.words(60 * i, 60, " ")), i);
         }
         return x;
     }
@@ -648,15 +638,15 @@ public final class QuestionsTest {
         would(x, LIST, "zzz zzz", 1, 2 - 3);
         // the shelf goes from aaa to bbr
         would(x, LIST, "aaa zzz bbr zzz bbs", 2, 2 * 2 - 3 * 3);
-        String fresh = words(720, 778, " ");
+        String fresh = Check.words(720, 58, " ");
         would(x, LIST, fresh + "zzz zzz", 59, 59 * 2 - 3);
         would(x, LIST, fresh + "zzz bdx", 59, 59 * 2 - 3);
-        would(x, LIST, words(720, 780, " "), 60, 60 * 2);
-        would(x, VERSE, words(720, 779, "/") + "zzz", 60, 60 * 4);
+        would(x, LIST, Check.words(720, 60, " "), 60, 60 * 2);
+        would(x, VERSE, Check.words(720, 59, "/") + "zzz", 60, 60 * 4);
         would(x, VERSE, "zzz yyy/yyy zzz/zzz yyy/aaa/aaa zzz", 3, 3 * 4 - 2 * 3);
         x.set(2, 1);
         would(x, VERSE, "zzz/yyy aaa/yyy zzz/aaa yyy zzz/xxx", 3, 3 * 4 - 2 * 3);
-        would(x, VERSE, words(720, 777, "/") + "zzz/zzz bdw", 58, 58 * 4 - 3);
+        would(x, VERSE, Check.words(720, 57, "/") + "zzz/zzz bdw", 58, 58 * 4 - 3);
         x.set(2, 2);
         would(x, VERSE, "zzz/yyy zzz/zzz xxx/xxx zzz aaa/xxx zzz/zzz", 4, 3 * 4 + 8 - 2 * 3);
         Check.same("nothing is handed in", x.count(3), 720);
@@ -672,9 +662,9 @@ public final class QuestionsTest {
     private static void thirteenthWorkBehindAppeals() {
         LineOffice x = Check.office("stuff 2;distinct 1;fine 3;");
         for (int i = 0; i < 11; i++) {
-            Check.submit(x, 0, LIST, words(60 * i, 60 * i + 60, " "));
+            Check.submit(x, 0, LIST, Check.words(60 * i, 60, " "));
         }
-        Check.submit(x, 0, VERSE, "zzz zzz/" + words(660, 718, "/"));
+        Check.submit(x, 0, VERSE, "zzz zzz/" + Check.words(660, 58, "/"));
         Check.same("one is caught", x.count(3), 11 * 60 + 58);
         Check.same("it is granted", x.appeal(11, 0), 1);
         would(x, VERSE, "zzz zzz/zzz/zzz/yyy", 2, 2 * 4 - 2 * 3);
